@@ -152,7 +152,7 @@ public final class TalkCoopers {
     }
 
     public int kept(int k, int what) {
-        if (k < 0 || k >= log.count || what < 0 || what >= KEPT_CELLS) {
+        if (k < 0 || k >= log.count || k >= MOST_KEPT || what < 0 || what >= KEPT_CELLS) {
             return NONE;
         }
         return log.cells[k * KEPT_CELLS + what];
@@ -374,7 +374,7 @@ public final class TalkCoopers {
     }
 
     public int octet(int k) {
-        return k >= 0 && k < pictureLength ? picture[k] : NONE;
+        return k >= 0 && k < pictureLength && k < picture.length ? picture[k] : NONE;
     }
 
     public boolean on() {
@@ -411,11 +411,11 @@ public final class TalkCoopers {
     }
 
     private boolean isGuest(int guest) {
-        return guest >= 0 && guest < rules.guests;
+        return guest >= 0 && guest < rules.guests && guest < MOST_GUESTS;
     }
 
     private boolean isSeat(int seat) {
-        return seat >= 0 && seat < rules.seats;
+        return seat >= 0 && seat < rules.seats && seat < MOST_SEATS;
     }
 
     /** Whether n, from least to most, MINUTES can come from now on. */
@@ -742,37 +742,27 @@ public final class TalkCoopers {
             word = Word.NO_WORD;
             sign = NO_SIGN;
             int first = text.byteAt(start);
+            int ahead = text.byteAt(start - 1);
             if (start >= text.length) {
                 kind = END;
             } else if (!isLetter(first) && !isDigit(first)) {
                 kind = SIGN;
                 sign = first;
                 end = start + 1;
-            } else if (isLetter(text.byteAt(start - 1)) || isDigit(text.byteAt(start - 1))) {
+            } else if (isLetter(ahead) || isDigit(ahead)) {
                 kind = GLUED;
             } else if (isLetter(first)) {
                 kind = WORD;
-                nextWord();
+                while (end < text.length && isLetter(text.byteAt(end))) {
+                    end++;
+                }
+                word = findWord();
             } else {
                 kind = NUMBER;
-                nextNumber();
-            }
-        }
-
-        private void nextWord() {
-            while (end < text.length && isLetter(text.byteAt(end))) {
-                end++;
-            }
-            word = findWord();
-        }
-
-        private void nextNumber() {
-            number = 0;
-            while (end < text.length && isDigit(text.byteAt(end))) {
-                if (end - start < MOST_DIGITS) {
-                    number = 10 * number + text.byteAt(end) - '0';
+                while (end < text.length && isDigit(text.byteAt(end))) {
+                    end++;
                 }
-                end++;
+                number = findNumber();
             }
         }
 
@@ -784,7 +774,7 @@ public final class TalkCoopers {
             for (int i = 0; i < Word.ALL_WORDS.length(); i++) {
                 int c = Word.ALL_WORDS.charAt(i);
                 if (c != ' ') {
-                    isSame = isSame && at < end && text.byteAt(at) == c;
+                    isSame = isSame && at >= 0 && at < end && at < MOST_BYTES && text.bytes[at] == c;
                     at++;
                 } else if (isSame && at == end) {
                     return found;
@@ -795,6 +785,17 @@ public final class TalkCoopers {
                 }
             }
             return Word.NO_WORD;
+        }
+
+        /** The number from start to end, by MOST_DIGITS digits at the most. */
+        private int findNumber() {
+            int found = 0;
+            for (int k = start; k < end && k < start + MOST_DIGITS; k++) {
+                if (k >= 0 && k < MOST_BYTES) {
+                    found = 10 * found + text.bytes[k] - '0';
+                }
+            }
+            return found;
         }
 
         private static boolean isBlank(int c) {
@@ -857,9 +858,9 @@ public final class TalkCoopers {
                 case Word.TABLE: return readSeats(draft);
                 case Word.GUEST: return readGuest(draft);
                 case Word.HOOP: return readHoop(draft);
-                case Word.SWELLS: return readRule(draft.swells);
-                case Word.STARTS: return readRule(draft.starts);
-                case Word.SPILLS: return readRule(draft.spills);
+                case Word.SWELLS: return startRule(draft.swells) && readSum();
+                case Word.STARTS: return startRule(draft.starts) && readTest();
+                case Word.SPILLS: return startRule(draft.spills) && readSum();
                 case Word.TOAST: return readToast(draft);
                 default: return fail(1, start);
             }
@@ -947,13 +948,13 @@ public final class TalkCoopers {
             return true;
         }
 
-        private boolean readRule(Code rule) {
+        private boolean startRule(Code rule) {
             if (rule.isGiven) {
                 return fail(5, start);
             }
             startCode(rule, word);
             next();
-            return within == Word.STARTS ? readTest() : readSum();
+            return true;
         }
 
         // ---- tests and sums; MOST_OPEN keeps low how deep they call one another.
@@ -1020,19 +1021,6 @@ public final class TalkCoopers {
                 open--;
                 return true;
             }
-            return readComparison();
-        }
-
-        private boolean readNot() {
-            if (!openHere() || !readFact()) {
-                return false;
-            }
-            open--;
-            code.add(SIGNS + Word.NOT);
-            return true;
-        }
-
-        private boolean readComparison() {
             if (!readSum()) {
                 return false;
             }
@@ -1045,6 +1033,15 @@ public final class TalkCoopers {
                 return false;
             }
             code.add(SIGNS + comparing);
+            return true;
+        }
+
+        private boolean readNot() {
+            if (!openHere() || !readFact()) {
+                return false;
+            }
+            open--;
+            code.add(SIGNS + Word.NOT);
             return true;
         }
 
@@ -1215,7 +1212,7 @@ public final class TalkCoopers {
         int loadOf(int seat) {
             int load = 0;
             for (int g = 0; g < rules.guests && g < MOST_GUESTS; g++) {
-                int apart = Math.abs(seatOf[g] - seat);
+                int apart = seatOf[g] > seat ? seatOf[g] - seat : seat - seatOf[g];
                 if (apart <= 1 || apart == rules.seats - 1) {
                     load += swell[g];
                 }

@@ -281,6 +281,13 @@ public final class ActsTest {
         Check.due("status(5)", x.status(5), 2);
         Check.due("seed(0)", x.seed(0), true);
         Check.due("seed(MAX)", x.seed(Integer.MAX_VALUE), true);
+        // 639188860 draws 0 of 100
+        x = Check.with("table 3;guest a at 0 wet 0 hot 0;starts not all;");
+        x.seed(639188860);
+        Check.due("0 is not below 0", x.chance(1), 0);
+        Check.table(x, "table 3;guest a at 0 wet 0 hot 0;toast 1;starts not all;");
+        x.seed(639188860);
+        Check.due("0 is below 1", x.chance(1), 1);
         x = Check.with("table 3;guest a at 0 wet 0 hot 0;toast 93;starts not all;");
         // from 0: 12345, 192 of 64, 92 of 100
         x.seed(0);

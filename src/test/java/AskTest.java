@@ -39,12 +39,17 @@ public final class AskTest {
         Check.dueAsk(x, "total swell", 100);
         Check.dueAsk(x, "most 5-wet", 4);
         Check.dueAsk(x, "least 5-swell", -35);
+        Check.dueAsk(x, "least swell", 10);
+        Check.dueAsk(x, "most hot", 4);
         Check.dueAsk(x, "most 0-swell", -10);
         Check.dueAsk(x, "\n often  wet>1 and not hot=3 or number=0 ", 3);
         Check.dueAsk(x, "often[wet=1 or wet=2]and hot>3", 1);
         Check.dueAsk(x, "often wet=1 or wet=2 and hot>3", 1);
         Check.dueAsk(x, "often wet=1 or wet=2 and hot=3", 2);
         Check.dueAsk(x, "often not wet=1 and hot>1", 2);
+        Check.dueAsk(x, "often all and wet=1", 1);
+        Check.dueAsk(x, "often wet<9 and wet=1", 1);
+        Check.dueAsk(x, "often not all", 0);
     }
 
     private static void parts() {
@@ -166,6 +171,7 @@ public final class AskTest {
         Check.dueAsk(x, "total far(far(far(0)))", 0 + 0 + 3 + 0);
         Check.dueAskFault(x, "first [not[not far(min(1,2))>1]]", 4, 22);
         Check.dueAsk(x, "first [not[not far(1)>9]]", -1);
+        Check.dueAsk(x, "total min(1,2)+(1)+max(1,2)+(1)+min(1,2)+(1)+max(1,2)+(1)", 4 * 10);
         Check.dueAskFault(x, "often [[[[[[[", 4, 12);
         Check.dueAskFault(x, "often not not not not not not not", 4, 30);
         Check.dueAsk(x, "often not not not not not not all and not not all", 4);

@@ -83,6 +83,10 @@ public final class FaultTest {
         Check.dueTableFault(T + "toast 10000;", 1, 18);
         Check.dueTableFault(T + "swells 12345;", 1, 19);
         Check.dueTableFault(T + "swells 1+(00001);", 1, 22);
+        Check.dueTableFault(T + "swells 1+12345;", 1, 21);
+        Check.dueTableFault(T + "swells 1*12345;", 1, 21);
+        Check.dueTableFault(T + "starts 1=12345;", 1, 21);
+        Check.dueTableFault(T + "starts 1=1 or 12345=1;", 1, 26);
         Check.dueTableFault(T + "swells 1 12345;", 1, 17);
         Check.dueTableFault(T + "12345;", 1, 8);
     }
@@ -171,6 +175,14 @@ public final class FaultTest {
         Check.dueTableFault(T + "starts not[not[not[(1)=1]]];", 4, 27);
         Check.dueTableFault(T + "starts not[not[not[all and(1)=1", 4, 34);
         Check.dueTableFault(T + "starts not[not[not 1=(2)", 1, 32);
+        Check.dueTableFault(T + "starts all or not not not not not not not all;", 4, 46);
+        Check.dueTableFault(T + "starts all and [[[[[[[all", 4, 29);
+        Check.dueTableFault(T + "swells 1+(((((((1", 4, 23);
+        Check.dueTableFault(T + "swells 1*(((((((1", 4, 23);
+        Check.dueTableFault(T + "starts 1=(((((((1", 4, 23);
+        Check.dueTable(T + "swells " + "min(1,2)+".repeat(8) + "1;", 2);
+        Check.dueTable(T + "starts " + "[all]and ".repeat(8) + "all;", 2);
+        Check.dueTable(T + "starts " + "not all and ".repeat(8) + "all;", 2);
         Check.dueTableFault(T + "swells ((((((1(", 1, 22);
         Check.dueTableFault(T + "starts [[[[[[1[", 1, 22);
     }

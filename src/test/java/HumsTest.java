@@ -130,6 +130,23 @@ public final class HumsTest {
         Check.hear(x, 1, 1, 1, 2, 1, 3);
         Check.due("wets(0)", x.wets(0), 0b11000000);
         due(x, 0, 3, 1, 1);
+        x = Check.with("table 4;guest a at 1 wet 3 hot 0;swells (9-wet)/5*10;starts not all;");
+        due(x, 0, 1, 1, 5);
+        x = Check.with("table 4;guest a at 1 wet 3 hot 0;swells wet;starts not all;");
+        Check.hear(x, 1, 1, 0);
+        Check.due("wets(0)", x.wets(0), 1);
+        due(x, 0, 1, 0, 1);
+        tellsNoMoreThanCome();
+    }
+
+    /** By what is beyond MINUTE 999 nothing is told. */
+    private static void tellsNoMoreThanCome() {
+        TalkCoopers x = Check.with("table 4;guest a at 1 wet 3 hot 0;swells max(0,minute-998)*wet;starts not all;");
+        Check.due("on", Check.on(x, Check.withCheck(3, 215, 0, 0, 0, 0, 1, 0)), true);
+        due(x, 0, 1, 0, 10);
+        x = Check.with("table 4;guest a at 1 wet 3 hot 0;swells max(0,minute-997)*wet;starts not all;");
+        Check.due("on", Check.on(x, Check.withCheck(3, 215, 0, 0, 0, 0, 1, 0)), true);
+        due(x, 0, 16, 1, 1);
     }
 
     private static void tellsOfLikeOnes() {

@@ -196,6 +196,8 @@ public final class PlansTest {
         Check.due("tun(74): all", x.tun(74), 127 - 16);
         Check.due("tun(75)", x.tun(75), -1);
         Check.due("tun(1)", x.tun(1), -1);
+        x.say(4, 1);
+        Check.due("tun(1)", x.tun(1), 16);
         Check.due("tun(0)", x.tun(0), -1);
         Check.due("tun(-5)", x.tun(-5), -1);
         for (int g = 0; g < 7; g++) {

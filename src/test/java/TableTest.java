@@ -11,6 +11,7 @@ public final class TableTest {
         guests();
         seats();
         newTableForgets();
+        tableUponTable();
         faultyTableKeepsAll();
         Check.close("TableTest");
     }
@@ -120,6 +121,30 @@ public final class TableTest {
         Check.due("octet(8) stays", x.octet(8) >= 0, true);
         Check.due("octet(9)", x.octet(9), -1);
         Check.due("the rules are new", x.later(0, 3), 3);
+    }
+
+    /** Nothing of an earlier TABLE, and nothing of one with a FAULT, is left in a later one. */
+    private static void tableUponTable() {
+        TalkCoopers x = new TalkCoopers();
+        String full = "table 9;guest a at 3 wet 9 hot 9;hoop 3;toast 100;swells 9;starts all;spills 9;";
+        String plain = "table 4;guest ann at 0 wet 2 hot 1;guest b at 3 wet 0 hot 0;";
+        for (int k = 0; k < 3; k++) {
+            Check.due("table, full", Check.table(x, full), 7);
+            Check.due("table, full again", Check.table(x, full), 7);
+            Check.due("later", x.later(0, 3), 27);
+            x.say(0, 77);
+            Check.due("table, faulty", Check.table(x, full + "hoop 3;"), -1);
+            Check.due("table, plain", Check.table(x, plain), 3);
+            Check.due("has(0)", x.has(0), 4);
+            Check.due("has(1)", x.has(1), 2);
+            Check.due("has(2)", x.has(2), 0);
+            Check.due("has(4)", x.has(4), 0);
+            Check.due("letter", x.letter(1, 1), 0);
+            Check.due("no toast", x.chance(5), 0);
+            Check.due("swells is wet", x.later(0, 5), 20);
+            Check.due("starts is swell>50", x.bursts(0), 20);
+            Check.due("spills is size/2", x.later(1, 21), 26);
+        }
     }
 
     private static void faultyTableKeepsAll() {

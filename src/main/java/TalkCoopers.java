@@ -661,6 +661,12 @@ public final class TalkCoopers {
         private static final int GLUED = 4;
         private static final int NO_SIGN = -1;
 
+        private static final int NO_SUCH_TEXT = 1;
+        private static final int NO_SUCH_NUMBER = 2;
+        private static final int NAME_TWICE = 3;
+        private static final int TOO_MANY_OPEN = 4;
+        private static final int TOO_MANY = 5;
+
         private final Tape text;
         final Code question = new Code();
         int asked = Word.NO_WORD;
@@ -693,13 +699,13 @@ public final class TalkCoopers {
             draft.clear();
             for (int n = 0; n <= MOST_STATEMENTS && kind != END && fault == 0; n++) {
                 if (n == MOST_STATEMENTS) {
-                    fail(5, start);
+                    fail(TOO_MANY, start);
                 } else if (readStatement(draft, n) && takeSign(';')) {
                     draft.statements++;
                 }
             }
             if (fault == 0 && draft.statements == 0) {
-                fail(1, text.length);
+                fail(NO_SUCH_TEXT, text.length);
             }
             return fault == 0;
         }
@@ -708,14 +714,14 @@ public final class TalkCoopers {
             begin();
             asked = word;
             if (asked < Word.FIRST || asked > Word.LEAST) {
-                return fail(1, start);
+                return fail(NO_SUCH_TEXT, start);
             }
             next();
             startCode(question, Word.NO_WORD);
             if (!(asksByTest() ? readTest() : readSum())) {
                 return false;
             }
-            return kind == END || fail(1, start);
+            return kind == END || fail(NO_SUCH_TEXT, start);
         }
 
         private void begin() {
@@ -812,7 +818,7 @@ public final class TalkCoopers {
 
         private boolean takeSign(int wanted) {
             if (sign != wanted) {
-                return fail(1, start);
+                return fail(NO_SUCH_TEXT, start);
             }
             next();
             return true;
@@ -820,7 +826,7 @@ public final class TalkCoopers {
 
         private boolean takeWord(int wanted) {
             if (word != wanted) {
-                return fail(1, start);
+                return fail(NO_SUCH_TEXT, start);
             }
             next();
             return true;
@@ -828,10 +834,10 @@ public final class TalkCoopers {
 
         private boolean takeNumber() {
             if (kind != NUMBER) {
-                return fail(1, start);
+                return fail(NO_SUCH_TEXT, start);
             }
             if (end - start > MOST_DIGITS) {
-                return fail(1, start + MOST_DIGITS);
+                return fail(NO_SUCH_TEXT, start + MOST_DIGITS);
             }
             taken = number;
             takenAt = start;
@@ -840,19 +846,19 @@ public final class TalkCoopers {
         }
 
         private boolean takeNumberUpTo(int most) {
-            return takeNumber() && (taken <= most || fail(2, takenAt));
+            return takeNumber() && (taken <= most || fail(NO_SUCH_NUMBER, takenAt));
         }
 
         /** Takes the number of a SEAT that is none of these. */
         private boolean takeSeat(int seats, int bits) {
-            return takeNumber() && (taken < seats && (bits >> taken & 1) == 0 || fail(2, takenAt));
+            return takeNumber() && (taken < seats && (bits >> taken & 1) == 0 || fail(NO_SUCH_NUMBER, takenAt));
         }
 
         // ---- statements.
 
         private boolean readStatement(Table draft, int n) {
             if ((n == 0) != (word == Word.TABLE)) {
-                return fail(1, start);
+                return fail(NO_SUCH_TEXT, start);
             }
             switch (word) {
                 case Word.TABLE: return readSeats(draft);
@@ -862,7 +868,7 @@ public final class TalkCoopers {
                 case Word.STARTS: return startRule(draft.starts) && readTest();
                 case Word.SPILLS: return startRule(draft.spills) && readSum();
                 case Word.TOAST: return readToast(draft);
-                default: return fail(1, start);
+                default: return fail(NO_SUCH_TEXT, start);
             }
         }
 
@@ -872,7 +878,7 @@ public final class TalkCoopers {
                 return false;
             }
             if (taken < LEAST_SEATS) {
-                return fail(2, takenAt);
+                return fail(NO_SUCH_NUMBER, takenAt);
             }
             draft.seats = taken;
             return true;
@@ -881,7 +887,7 @@ public final class TalkCoopers {
         private boolean readGuest(Table draft) {
             int g = draft.guests;
             if (g < 0 || g >= MOST_GUESTS) {
-                return fail(5, start);
+                return fail(TOO_MANY, start);
             }
             next();
             if (!readName(draft, g) || !takeWord(Word.AT) || !takeSeat(draft.seats, draft.seatBits)) {
@@ -903,10 +909,10 @@ public final class TalkCoopers {
 
         private boolean readName(Table draft, int g) {
             if (kind != WORD || word >= 0 && word < Word.OWN_WORDS) {
-                return fail(1, start);
+                return fail(NO_SUCH_TEXT, start);
             }
             if (end - start > MOST_LETTERS) {
-                return fail(1, start + MOST_LETTERS);
+                return fail(NO_SUCH_TEXT, start + MOST_LETTERS);
             }
             for (int k = 0; k < MOST_LETTERS; k++) {
                 int c = start + k < end ? text.byteAt(start + k) - 'a' + 1 : 0;
@@ -914,7 +920,7 @@ public final class TalkCoopers {
             }
             for (int other = 0; other < g; other++) {
                 if (areNamesAlike(draft, g, other)) {
-                    return fail(3, start);
+                    return fail(NAME_TWICE, start);
                 }
             }
             next();
@@ -950,7 +956,7 @@ public final class TalkCoopers {
 
         private boolean startRule(Code rule) {
             if (rule.isGiven) {
-                return fail(5, start);
+                return fail(TOO_MANY, start);
             }
             startCode(rule, word);
             next();
@@ -970,7 +976,7 @@ public final class TalkCoopers {
         /** Opens a ( [ not beside far, whose token stands here. */
         private boolean openHere() {
             if (open >= MOST_OPEN) {
-                return fail(4, start);
+                return fail(TOO_MANY_OPEN, start);
             }
             open++;
             next();
@@ -1026,7 +1032,7 @@ public final class TalkCoopers {
             }
             int comparing = sign;
             if (comparing != '<' && comparing != '>' && comparing != '=') {
-                return fail(1, start);
+                return fail(NO_SUCH_TEXT, start);
             }
             next();
             if (!readSum()) {
@@ -1090,7 +1096,7 @@ public final class TalkCoopers {
                 return readFrom();
             }
             if (!isKnownHere()) {
-                return fail(1, start);
+                return fail(NO_SUCH_TEXT, start);
             }
             code.add(SIGNS + word);
             next();
@@ -1109,7 +1115,7 @@ public final class TalkCoopers {
             int joining = word;
             next();
             if (sign != '(') {
-                return fail(1, start);
+                return fail(NO_SUCH_TEXT, start);
             }
             if (!openHere() || !readSum() || !takeSign(',') || !readSum() || !takeSign(')')) {
                 return false;

@@ -1,18 +1,42 @@
+import java.io.IOException;
 import java.nio.charset.StandardCharsets;
+import java.nio.file.Files;
+import java.nio.file.Path;
 
 /** What the tests share: texts and bytes are fed, answers are held against those that are due. */
 final class Check {
     private static int wrong = 0;
     private static int checks = 0;
+    private static String document = "";
+    private static String sentence = "";
 
     private Check() {
+    }
+
+    /** The sentence of ../shared/DOC.md that the checks behind this hold against; it must stand there, word by word. */
+    static void sentence(String words) {
+        if (document.isEmpty()) {
+            document = readDocument();
+        }
+        sentence = words;
+        due("the sentence stands in the document", document.contains(words), true);
+    }
+
+    private static String readDocument() {
+        Path path = Path.of(System.getProperty("root", "."), "..", "shared", "DOC.md");
+        try {
+            return Files.readString(path, StandardCharsets.UTF_8).replaceAll("\\s+", " ");
+        } catch (IOException e) {
+            throw new IllegalStateException("the document can't be read: " + path, e);
+        }
     }
 
     static void due(String call, long got, long want) {
         checks++;
         if (got != want) {
             wrong++;
-            System.out.println(call + " answered " + got + ", due is " + want);
+            String where = sentence.isEmpty() ? "" : " [" + sentence + "]";
+            System.out.println(call + " answered " + got + ", due is " + want + where);
         }
     }
 
@@ -118,6 +142,40 @@ final class Check {
         }
         all[bytes.length] = c;
         return all;
+    }
+
+    /** All that can be seen of what is so, but for FAULTS and refusals. */
+    static String seen(TalkCoopers x) {
+        StringBuilder b = new StringBuilder();
+        for (int what = 0; what < 8; what++) {
+            b.append(x.has(what)).append(' ');
+        }
+        for (int g = 0; g < x.has(1); g++) {
+            for (int k = 0; k < 6; k++) {
+                b.append(x.letter(g, k)).append(' ').append(x.guest(g, Math.min(k, 3))).append(' ');
+            }
+            b.append(x.later(g, 1)).append(' ').append(x.wets(g)).append(' ');
+        }
+        for (int s = 0; s < x.has(0); s++) {
+            b.append(x.seat(s, 0)).append(' ').append(x.seat(s, 1)).append(' ').append(x.seat(s, 2)).append(' ');
+        }
+        for (int k = 0; k < x.has(5); k++) {
+            for (int what = 0; what < 4; what++) {
+                b.append(x.kept(k, what)).append(' ');
+            }
+        }
+        for (int k = 0; x.octet(k) >= 0; k++) {
+            b.append(x.octet(k)).append(' ');
+        }
+        return b.toString();
+    }
+
+    static void dueStays(String call, TalkCoopers x, String seenAhead) {
+        String now = seen(x);
+        if (!now.equals(seenAhead)) {
+            System.out.println("it was " + seenAhead + "\nand is " + now);
+        }
+        due(call + ": all stays", now.equals(seenAhead), true);
     }
 
     static void close(String test) {

@@ -414,7 +414,7 @@ public final class ModelTest {
                 newTable();
             }
         }
-        while (calls < 420) {
+        while (calls < 380) {
             step();
         }
     }

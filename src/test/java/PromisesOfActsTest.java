@@ -18,6 +18,7 @@ public final class PromisesOfActsTest {
         chanceBeyond999();
         undoEachAct();
         undoLeavesTheSeed();
+        undoOfWhatIsKept();
         undoRefused();
         undoneAndDoneAnew();
         seed();
@@ -277,26 +278,41 @@ public final class PromisesOfActsTest {
 
     private static void undoEachAct() {
         Check.sentence("The latest ACT is undone (the seed stays): true");
-        TalkCoopers x = Check.with(TWO + "toast 90;");
-        String[] before = new String[7];
         for (int k = 0; k < 7; k++) {
-            before[k] = Check.seen(x);
-            switch (k) {
-                case 0: x.drive(0, 1); break;
-                case 1: x.drive(0, 0); break;
-                case 2: x.sit(0, 3); break;
-                case 3: x.say(1, 60); break;
-                case 4: x.minutes(3); break;
-                case 5: x.chance(3); break;
-                default: x.say(1, 59);
-            }
+            TalkCoopers x = Check.with(TWO + "toast 90;");
+            x.minutes(6);
+            x.say(1, 40);
+            String before = Check.seen(x);
+            act(x, k);
+            Check.due("ACTS", x.has(7), 3);
+            Check.due("undo", x.undo(), true);
+            Check.dueStays("an ACT undone", x, before);
+        }
+        TalkCoopers x = Check.with(TWO + "toast 90;");
+        String before = Check.seen(x);
+        for (int k = 0; k < 7; k++) {
+            act(x, k);
             Check.due("ACTS", x.has(7), k + 1);
         }
         for (int k = 6; k >= 0; k--) {
             Check.due("undo", x.undo(), true);
-            Check.dueStays("undo() of ACT " + k, x, before[k]);
+            Check.due("ACTS", x.has(7), k);
         }
+        Check.dueStays("all ACTS undone", x, before);
         Check.due("none is left", x.undo(), false);
+    }
+
+    /** An ACT of each kind, each of which can be done behind the one ahead of it. */
+    private static void act(TalkCoopers x, int kind) {
+        switch (kind) {
+            case 0: x.drive(0, 1); break;
+            case 1: x.drive(3, 0); break;
+            case 2: x.sit(0, 3); break;
+            case 3: x.say(1, 60); break;
+            case 4: x.minutes(3); break;
+            case 5: x.chance(3); break;
+            default: x.sit(1, 2);
+        }
     }
 
     private static void undoLeavesTheSeed() {
@@ -312,6 +328,25 @@ public final class PromisesOfActsTest {
         int swell = y.guest(0, 3);
         Check.due("what comes by the seed goes on", x.chance(5), y.chance(5));
         Check.due("SWELL", x.guest(0, 3), y.guest(0, 3) - swell);
+    }
+
+    /** What was KEPT ahead of an ACT is told again when it is undone, even what was no more among the last 40. */
+    private static void undoOfWhatIsKept() {
+        Check.sentence("The latest ACT is undone (the seed stays): true");
+        TalkCoopers x = Check.with("table 3;guest a at 0 wet 0 hot 0;swells 1;starts all;");
+        x.minutes(30);
+        x.minutes(100);
+        Check.due("has(5)", x.has(5), 40);
+        Check.due("kept(0, 0)", x.kept(0, 0), 90);
+        x.undo();
+        Check.due("has(5)", x.has(5), 30);
+        for (int k = 0; k < 30; k++) {
+            Check.due("kept(" + k + ", 0)", x.kept(k, 0), k);
+            Check.due("kept(" + k + ", 3)", x.kept(k, 3), 1);
+        }
+        x.undo();
+        Check.due("has(5)", x.has(5), 0);
+        Check.due("kept(0, 0)", x.kept(0, 0), -1);
     }
 
     private static void undoRefused() {

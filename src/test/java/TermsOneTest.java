@@ -20,6 +20,7 @@ public final class TermsOneTest {
         hooped();
         size();
         fromTheLeft();
+        andAheadOfOr();
         quotients();
         heldAtAMillion();
         withoutSwells();
@@ -233,6 +234,20 @@ public final class TermsOneTest {
         Check.due("2+3*4-1", Check.with(QUIET + "2+3*4-1;").later(0, 1), 13);
     }
 
+    private static void andAheadOfOr() {
+        Check.sentence("TEST: BOTH { or BOTH }. BOTH: FACT { and FACT }. FACT: not FACT; [ TEST ] ; all; SUM SIGN SUM, SIGN < or > or = .");
+        String[] tests = {"all or not all and not all", "not all and not all or all", "[all or not all]and not all",
+            "not all and[not all or all]", "all and all", "all and not all", "not all and all", "not all or not all", "all and 1=1",
+            "1=1 and all", "not 1=2 and 1=1", "not not all", "not not not all", "1<2", "2<2", "3<2", "2>1", "2>2", "2>3", "2=2", "2=1",
+            "not[all and not all]and all", "not not not 1=2 and not not 1=1"};
+        int[] holds = {1, 1, 0, 0, 1, 0, 0, 0, 1, 1, 1, 1, 0, 1, 0, 0, 1, 0, 0, 1, 0, 1, 1};
+        for (int k = 0; k < tests.length; k++) {
+            Check.dueAsk(Check.with(QUIET + "1;"), "often " + tests[k], holds[k]);
+            TalkCoopers x = Check.with("table 3;guest a at 0 wet 0 hot 0;starts " + tests[k] + ";");
+            Check.due("starts " + tests[k], x.burst(1), holds[k]);
+        }
+    }
+
     private static void quotients() {
         Check.sentence("/ gives the greatest whole number not above, by 0 it gives 0");
         String[] sums = {"7/2", "6/2", "(0-7)/2", "(0-6)/2", "7/(0-2)", "6/(0-2)", "(0-7)/(0-2)", "1/9999", "(0-1)/9999",
@@ -301,6 +316,9 @@ public final class TermsOneTest {
         Check.due("one letter", x.letter(0, 0), 26);
         Check.due("behind it", x.letter(0, 1), 0);
         Check.due("six letters", x.letter(1, 5), 26);
+        for (String word : "first last often total most least".split(" ")) {
+            Check.dueTable(T + "guest " + word + " at 0 wet 1 hot 1;", 2);
+        }
         Check.dueTableFault(T + "guest zzzzzzz at 0 wet 1 hot 1;", 1, 20);
         Check.dueTableFault(T + "guest  at 0 wet 1 hot 1;", 1, 15);
         Check.dueTableFault(T + "guest 5 at 0 wet 1 hot 1;", 1, 14);
@@ -448,6 +466,9 @@ public final class TermsOneTest {
         Check.dueTableFault(T + "starts [not[not[((1))=1]]];", 4, 25);
         Check.dueTableFault(T + "starts [not[not[(1)=(((2)))]]];", 4, 29);
         Check.dueTable(T + "spills ((((((1))))))*((((((1))))));", 2);
+        Check.dueTable(T + "spills " + "max(1,(2))*".repeat(9) + "1;", 2);
+        Check.dueTable(T + "starts " + "[[all]]and ".repeat(9) + "all;", 2);
+        Check.dueTable(T + "starts " + "[not[all]]or ".repeat(9) + "all;", 2);
     }
 
     private static void notUntilItsFactEnds() {

@@ -21,6 +21,8 @@ public final class TermsThreeTest {
         fewestBySeating();
         firstOfLikeRows();
         seatingOfSeven();
+        lastOfAllRows();
+        spillsBySeats();
         fewestTogether();
         leastBitsTogether();
         oneBehindTheOther();
@@ -311,6 +313,33 @@ public final class TermsThreeTest {
         dueSeating(x, 1, 6, 0, 1, 2, 3, 4, 5, 6);
     }
 
+    /** Each BURSTS but where the one on his right has one SWELL less: in one row of all 5040, the last one. */
+    private static void lastOfAllRows() {
+        Check.sentence("by which, if they sat so now, fewest BURST in n MINUTES");
+        TalkCoopers x = Check.with(seven(9, 0, "swells (right+1-swell)*(right+1-swell);starts swell>hot+1;"));
+        for (int g = 0; g < 7; g++) {
+            x.say(g, g + 1);
+        }
+        dueSeating(x, 1, 0, 6, 5, 4, 3, 2, 1, 0);
+        Check.due("as they sit now", x.burst(1) > 0, true);
+    }
+
+    /** a bursts and spills on those beside him; b bursts by that, c does not. */
+    private static void spillsBySeats() {
+        Check.sentence("if they change SEATS now, let fewest BURST");
+        TalkCoopers x = Check.with("table 7;guest a at 0 wet 0 hot 9;guest b at 1 wet 0 hot 1;guest c at 3 wet 0 hot 0;"
+                + "swells 0;starts hot=9 or hot=1 and swell>0;");
+        x.say(0, 60);
+        dueChange(x, 1, 0, 2, 1);
+        dueSeating(x, 1, 1, 0, 3, 1);
+        x = Check.with("table 7;guest a at 0 wet 0 hot 0;guest b at 1 wet 0 hot 1;guest c at 3 wet 0 hot 2;"
+                + "swells left+right;starts swell>50;");
+        x.say(0, 30);
+        x.say(1, 30);
+        dueChange(x, 1, 0, 2, 0);
+        dueSeating(x, 1, 0, 0, 3, 1);
+    }
+
     // ---- TUN and ROW.
 
     private static TalkCoopers swollen(int... swells) {
@@ -392,13 +421,11 @@ public final class TermsThreeTest {
 
     private static void swellsHeard() {
         Check.sentence("(0 .. 99; 255: nobody is in it)");
-        TalkCoopers x = Check.with(ONE);
         for (int swell = 0; swell <= 255; swell++) {
             boolean good = swell <= 99 || swell == 255;
-            if (swell < 3 || swell > 97) {
-                Check.due("hear " + swell, Check.hear(x, 0, 0, swell), good ? 1 : -1);
-            }
+            Check.due("hear " + swell, Check.hear(Check.with(ONE), 0, 0, swell), good ? 1 : -1);
         }
+        TalkCoopers x = Check.with(ONE);
         x.say(0, 99);
         Check.hear(x, 0, 0, 99);
         Check.due("99", x.wets(0), 1023);
@@ -466,6 +493,15 @@ public final class TermsThreeTest {
         x = Check.with(quiet + "wet/3;");
         Check.hear(x, 1, 2, 3);
         dueTells(x, 0, 1, 0, 1);
+        x = Check.with(quiet + "wet+1;");
+        dueTells(x, 0, 1, 2, 1);
+        Check.hear(x, 1, 2, 1);
+        dueTells(x, 0, 1, 0, 1);
+        // 0 and 1 are like, 6 to 9 are, too
+        x = Check.with(quiet + "5-max(0,wet-1);");
+        dueTells(x, 0, 1, 2, 4);
+        Check.hear(x, 1, 2, 5);
+        dueTells(x, 0, 1, 0, 2);
     }
 
     private static void firstOfLikeTellings() {

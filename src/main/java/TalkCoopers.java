@@ -365,7 +365,7 @@ public final class TalkCoopers {
         for (int s = 0; s < rules.seats; s++) {
             k = paint(k, now.hoopBits >> s & 1);
         }
-        for (int g = 0; g < rules.guests; g++) {
+        for (int g = 0; g < rules.guests && g < MOST_GUESTS; g++) {
             k = paint(k, now.seatOf[g]);
             k = paint(k, now.swell[g]);
         }
